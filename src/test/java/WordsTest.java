@@ -1,0 +1,138 @@
+import java.util.ArrayList;
+import java.util.List;
+
+/** Promises 26 to 31 on made-up SYSTEMS, beside COSTS of all short STACKS and of some long ones. */
+public final class WordsTest {
+    private static final Check CHECK = new Check("WordsTest");
+
+    public static void main(String[] args) {
+        Sample.Row row = new Sample.Row(4711);
+        for (int i = 0; i < 400; i++) {
+            Sample sample = i % 2 == 0 ? new Sample(row, 3, 2, 10, 3) : new Sample(row, 5, 6, 14, 9);
+            if (sample.goals.isEmpty()) {
+                continue;
+            }
+            CallSteps x = Check.made(sample.text());
+            int out = row.below(30);
+            x.out(out, true);
+            List<List<String>> told = new ArrayList<>();
+            for (int p = 0; p < sample.states; p++) {
+                told.add(shortStacks(sample, x, p));
+                longStacks(sample, x, p);
+                isLeast(sample, x, p);
+            }
+            for (int p = 0; p < sample.states; p++) {
+                for (int q = 0; q < sample.states; q++) {
+                    isSame(sample, x, p, q, told.get(p).equals(told.get(q)));
+                }
+            }
+        }
+        CHECK.close();
+    }
+
+    private static int node(CallSteps x, int p, String stack) {
+        int k = 0;
+        for (int i = 0; i < stack.length(); i++) {
+            k = x.next(p, k, stack.charAt(i) - '0');
+        }
+        return k;
+    }
+
+    private static boolean hasCost(CallSteps x, int p, String stack) {
+        Check.at(x, Sample.placeText(p, stack));
+        return x.cost() >= 0;
+    }
+
+    /** All STACKS of up to some SIGNS with which the STATE has a COST. */
+    private static List<String> shortStacks(Sample sample, CallSteps x, int p) {
+        int most = sample.signs == 1 ? 8 : sample.signs == 2 ? 6 : sample.signs < 5 ? 4 : 3;
+        List<String> told = new ArrayList<>();
+        List<String> words = List.of("");
+        for (int n = 0; n <= most; n++) {
+            int count = 0;
+            List<String> longer = new ArrayList<>();
+            for (String word : words) {
+                boolean is = hasCost(x, p, word);
+                CHECK.due("28 of " + sample.text() + " " + p + " " + word, x.good(p, node(x, p, word)), is ? 1 : 0);
+                if (is) {
+                    count++;
+                    told.add(word);
+                }
+                for (int g = 0; g < sample.signs; g++) {
+                    longer.add(word + g);
+                }
+            }
+            CHECK.due("29 of " + sample.text() + " " + p + " " + n, x.stacks(p, n), count);
+            words = longer;
+        }
+        if (told.isEmpty()) {
+            int length = x.shortest(p, -1);
+            CHECK.due("30 longer or none", length == -1 || length > most, true);
+        } else {
+            String first = told.get(0);
+            CHECK.due("30 of " + sample.text() + " " + p, x.shortest(p, -1), first.length());
+            for (int i = 0; i < first.length(); i++) {
+                CHECK.due("30 sign of " + sample.text() + " " + p, x.shortest(p, i), first.charAt(i) - '0');
+            }
+            CHECK.due("30 behind the last", x.shortest(p, first.length()), -1);
+        }
+        return told;
+    }
+
+    private static void longStacks(Sample sample, CallSteps x, int p) {
+        for (int i = 0; i < 20; i++) {
+            String stack = sample.stack(i < 10 ? 10 : 40);
+            CHECK.due("28 of " + sample.text() + " " + p + " " + stack, x.good(p, node(x, p, stack)), hasCost(x, p, stack) ? 1 : 0);
+        }
+    }
+
+    /** Every NODE comes up in its turn, and no two of them tell the same. */
+    private static void isLeast(Sample sample, CallSteps x, int p) {
+        int nodes = x.machine(p);
+        int known = 1;
+        for (int k = 0; k < nodes; k++) {
+            for (int g = 0; g < sample.signs; g++) {
+                int next = x.next(p, k, g);
+                CHECK.due("26 in turn, of " + sample.text(), next >= 0 && next <= known, true);
+                known = Math.max(known, next + 1);
+            }
+        }
+        CHECK.due("26 all come up, of " + sample.text(), known, nodes);
+        CHECK.due("27 no more nodes", x.next(p, nodes, 0), -1);
+        CHECK.due("28 no more nodes", x.good(p, nodes), -1);
+        boolean[][] differ = new boolean[nodes][nodes];
+        boolean changes = true;
+        while (changes) {
+            changes = false;
+            for (int k = 0; k < nodes; k++) {
+                for (int j = 0; j < k; j++) {
+                    boolean is = x.good(p, k) != x.good(p, j);
+                    for (int g = 0; g < sample.signs && !is; g++) {
+                        int a = x.next(p, k, g);
+                        int b = x.next(p, j, g);
+                        is = differ[Math.max(a, b)][Math.min(a, b)];
+                    }
+                    changes |= is && !differ[k][j];
+                    differ[k][j] = is;
+                }
+            }
+        }
+        for (int k = 0; k < nodes; k++) {
+            for (int j = 0; j < k; j++) {
+                CHECK.due("26 nodes " + j + " " + k + " differ, of " + sample.text(), differ[k][j], true);
+            }
+        }
+    }
+
+    private static void isSame(Sample sample, CallSteps x, int p, int q, boolean shortAlike) {
+        boolean alike = x.machine(p) == x.machine(q);
+        for (int k = 0; alike && k < x.machine(p); k++) {
+            alike = x.good(p, k) == x.good(q, k);
+            for (int g = 0; alike && g < sample.signs; g++) {
+                alike = x.next(p, k, g) == x.next(q, k, g);
+            }
+        }
+        CHECK.due("31 of " + sample.text() + " " + p + " " + q, x.same(p, q), alike ? 1 : 0);
+        CHECK.due("31 short ones, of " + sample.text(), !alike || shortAlike, true);
+    }
+}
