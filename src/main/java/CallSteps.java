@@ -594,9 +594,11 @@ public final class CallSteps {
         int number = 0;
 
         void addFour(int four) {
-            for (int shift = 24; shift >= 0 && length < bytes.length; shift -= 8) {
-                bytes[length] = four >>> shift & 255;
-                length++;
+            for (int shift = 24; shift >= 0; shift -= 8) {
+                if (length >= 0 && length < bytes.length) {
+                    bytes[length] = four >>> shift & 255;
+                    length++;
+                }
             }
         }
 
@@ -720,7 +722,7 @@ public final class CallSteps {
             if (state == NONE) {
                 return false;
             }
-            while (tape.kind != Tape.END && into.height < MOST_HEIGHT) {
+            for (int i = 0; i < MOST_HEIGHT && tape.kind != Tape.END; i++) {
                 int sign = takeNamed(program.signNamed(tape.letters));
                 if (sign == NONE) {
                     return false;

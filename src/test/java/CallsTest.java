@@ -166,7 +166,8 @@ public final class CallsTest {
             case 6 -> CHECK.due("16", x.way(a) >= -2, true);
             case 7 -> thrown("17", () -> x.pops(a, b, c), !isHead || c < 0 || c >= sample.states);
             case 8 -> CHECK.due("18", x.matters(a) >= -2, true);
-            case 9 -> CHECK.due("19", x.comes(a, b) >= -1, true);
+            case 9 -> CHECK.due("19", x.comes(a, b) >= (isHead || b == -1 && a >= 0 && a < sample.states ? -1 : 0), isHead
+                || b == -1 && a >= 0 && a < sample.states);
             case 10 -> thrown("21", () -> x.rises(a, b), !isHead);
             case 11 -> thrown("22", () -> x.lasts(a, b), !isHead);
             case 12 -> CHECK.due("26", x.machine(a) == -1, a < 0 || a >= sample.states);

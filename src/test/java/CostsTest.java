@@ -178,6 +178,17 @@ public final class CostsTest {
         x.undo();
         x.out(1, true);
         due("19 out", x.comes(0, -1), -1);
+        CallSteps high = Check.made("state p;state q;sign a;sign b;rule p a to p;rule p b to q;goal q;", "p" + " a".repeat(39) + " b");
+        due("19 from forty", high.comes(0, 1), 39);
+        due("19 nothing from forty", high.comes(1, -1), 40);
+        due("25 from forty", Check.made("state p;sign a;sign b;rule p a to p;", "p" + " a".repeat(39) + " b").stuck(), 39);
+        due("18 from forty", high.matters(1), -1);
+        due("15 from forty", high.cost(), 40);
+        for (int p = 2; p < 40; p++) {
+            due("19 no state " + p, high.comes(p, 0), -1);
+            due("19 nothing, no state " + p, high.comes(p, -1), -1);
+            due("19 no sign " + p, high.comes(0, p), -1);
+        }
     }
 
     private static void height() {

@@ -19,7 +19,7 @@ public final class WordsTest {
             for (int p = 0; p < sample.states; p++) {
                 told.add(shortStacks(sample, x, p));
                 longStacks(sample, x, p);
-                isLeast(sample, x, p);
+                isLeast(sample.signs, sample.text(), x, p);
             }
             for (int p = 0; p < sample.states; p++) {
                 for (int q = 0; q < sample.states; q++) {
@@ -27,7 +27,35 @@ public final class WordsTest {
                 }
             }
         }
+        for (String text : MANY_NODES) {
+            manyNodes(text, row);
+        }
         CHECK.close();
+    }
+
+    /** SYSTEMS with MACHINES of more than two hundred NODES. */
+    private static final String[] MANY_NODES = {
+        "rule q c to s d d;rule p c to t;rule p f to s;rule t d to s;rule t f to p;rule p d to q;rule t c to r;rule s c to s;rule q c to p;"
+            + "rule s d to t c;rule q d to t;rule r c to q;rule q f to r;rule r c to p;goal r d c f;goal r f d d;goal s f d b;goal r d d c;",
+        "rule s c to q;rule p b to s a;rule q c to t;rule t a to r;rule r b to p;rule t b to r;rule p a to p;rule q a to t;rule t a to q;"
+            + "rule t c to s;rule s b to s;rule r a to s;rule q b to s c c;rule p a to q;goal s a c c;goal r c c a more;goal p c c f;goal s a a a;"};
+
+    private static void manyNodes(String lines, Sample.Row row) {
+        String text = "state p;state q;state r;state s;state t;sign a;sign b;sign c;sign d;sign e;sign f;" + lines;
+        CallSteps x = Check.made(text);
+        int most = 0;
+        for (int p = 0; p < 5; p++) {
+            most = Math.max(most, x.machine(p));
+            isLeast(6, text, x, p);
+            for (int i = 0; i < 1000; i++) {
+                StringBuilder stack = new StringBuilder();
+                for (int n = row.below(12); n > 0; n--) {
+                    stack.append("01235".charAt(row.below(5)));
+                }
+                CHECK.due("28 of many " + p + " " + stack, x.good(p, node(x, p, stack.toString())), hasCost(x, p, stack.toString()) ? 1 : 0);
+            }
+        }
+        CHECK.due("26 many nodes", most > 200, true);
     }
 
     private static int node(CallSteps x, int p, String stack) {
@@ -87,17 +115,17 @@ public final class WordsTest {
     }
 
     /** Every NODE comes up in its turn, and no two of them tell the same. */
-    private static void isLeast(Sample sample, CallSteps x, int p) {
+    private static void isLeast(int signs, String text, CallSteps x, int p) {
         int nodes = x.machine(p);
         int known = 1;
         for (int k = 0; k < nodes; k++) {
-            for (int g = 0; g < sample.signs; g++) {
+            for (int g = 0; g < signs; g++) {
                 int next = x.next(p, k, g);
-                CHECK.due("26 in turn, of " + sample.text(), next >= 0 && next <= known, true);
+                CHECK.due("26 in turn, of " + text, next >= 0 && next <= known, true);
                 known = Math.max(known, next + 1);
             }
         }
-        CHECK.due("26 all come up, of " + sample.text(), known, nodes);
+        CHECK.due("26 all come up, of " + text, known, nodes);
         CHECK.due("27 no more nodes", x.next(p, nodes, 0), -1);
         CHECK.due("28 no more nodes", x.good(p, nodes), -1);
         boolean[][] differ = new boolean[nodes][nodes];
@@ -107,7 +135,7 @@ public final class WordsTest {
             for (int k = 0; k < nodes; k++) {
                 for (int j = 0; j < k; j++) {
                     boolean is = x.good(p, k) != x.good(p, j);
-                    for (int g = 0; g < sample.signs && !is; g++) {
+                    for (int g = 0; g < signs && !is; g++) {
                         int a = x.next(p, k, g);
                         int b = x.next(p, j, g);
                         is = differ[Math.max(a, b)][Math.min(a, b)];
@@ -119,7 +147,7 @@ public final class WordsTest {
         }
         for (int k = 0; k < nodes; k++) {
             for (int j = 0; j < k; j++) {
-                CHECK.due("26 nodes " + j + " " + k + " differ, of " + sample.text(), differ[k][j], true);
+                CHECK.due("26 nodes " + j + " " + k + " differ, of " + text, differ[k][j], true);
             }
         }
     }
