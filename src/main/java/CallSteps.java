@@ -487,13 +487,6 @@ public final class CallSteps {
         return sum >= FAR ? NONE : sum;
     }
 
-    private static long sum(long a, long b) {
-        if (a >= FAR || b >= FAR) {
-            return FAR;
-        }
-        return a + b > CAP ? CAP : a + b;
-    }
-
     private static int bitByNumber(int bits, int number) {
         int left = number;
         for (int r = 0; r < MOST_RULES; r++) {
@@ -539,6 +532,13 @@ public final class CallSteps {
     /** A row of longs that tests each index itself: outside of it FAR is read, and nothing is written. */
     private static final class Longs {
         private long[] cells;
+
+        static long sum(long a, long b) {
+            if (a >= FAR || b >= FAR) {
+                return FAR;
+            }
+            return a + b > CAP ? CAP : a + b;
+        }
 
         Longs(int length) {
             cells = new long[length < 0 ? 0 : length];
@@ -1255,7 +1255,7 @@ public final class CallSteps {
             }
             boolean changes = false;
             for (int node = 0; node < NODES; node++) {
-                long spent = sum(price, edge(to, first, node));
+                long spent = Longs.sum(price, edge(to, first, node));
                 if (spent < FAR) {
                     boolean lowers = second == NONE
                         ? lower(p, g, node, spent)
@@ -1269,7 +1269,7 @@ public final class CallSteps {
         private boolean lowerThrough(int p, int g, int middle, int second, long spent) {
             boolean changes = false;
             for (int node = 0; node < NODES; node++) {
-                if (lower(p, g, node, sum(spent, edge(middle, second, node)))) {
+                if (lower(p, g, node, Longs.sum(spent, edge(middle, second, node)))) {
                     changes = true;
                 }
             }
@@ -1290,7 +1290,7 @@ public final class CallSteps {
             }
         }
 
-        private long left(int height, int node) {
+        long left(int height, int node) {
             return rows.get(height * NODES + node);
         }
 
@@ -1299,7 +1299,7 @@ public final class CallSteps {
             for (int target = 0; target < NODES; target++) {
                 long price = edge(node, sign, target);
                 if (price < least) {
-                    least = Math.min(least, sum(price, left(height, target)));
+                    least = Math.min(least, Longs.sum(price, left(height, target)));
                 }
             }
             return least;
@@ -1321,7 +1321,7 @@ public final class CallSteps {
             for (int node = 0; node < NODES; node++) {
                 long price = edge(to, first, node);
                 if (price < least) {
-                    least = Math.min(least, sum(price, leftBy(height, node, second)));
+                    least = Math.min(least, Longs.sum(price, leftBy(height, node, second)));
                 }
             }
             return least;
@@ -1361,7 +1361,7 @@ public final class CallSteps {
         private int leastRule(Costs costs, Program program, int outBits, long left) {
             for (int r = 0; r < program.rules; r++) {
                 if (program.applies(r, place, outBits)
-                        && sum(program.ofRule(r, RULE_COST), costs.behind(place, program, r)) == left) {
+                        && Longs.sum(program.ofRule(r, RULE_COST), costs.behind(place, program, r)) == left) {
                     return r;
                 }
             }
@@ -1570,7 +1570,7 @@ public final class CallSteps {
                 int head = headBehind(r, i);
                 if (head != NONE) {
                     long ahead = i == NONE ? 0 : toPopFirst(r, i);
-                    most = Math.max(most, sum(sum(1, ahead), mostSteps.get(head)));
+                    most = Math.max(most, Longs.sum(Longs.sum(1, ahead), mostSteps.get(head)));
                 }
             }
             int head = headOfRule(r);
@@ -1616,7 +1616,7 @@ public final class CallSteps {
         }
 
         private static long joined(long a, long b) {
-            return a < 0 || b < 0 ? NONE : sum(1, sum(a, b));
+            return a < 0 || b < 0 ? NONE : Longs.sum(1, Longs.sum(a, b));
         }
 
         long mostStepsFrom(Place place) {
@@ -1629,7 +1629,7 @@ public final class CallSteps {
                 for (int q = 0; q < program.states; q++) {
                     long steps = stepsTo.get(q);
                     if (steps >= 0) {
-                        most = Math.max(most, sum(steps, mostSteps.get(headOf(q, sign))));
+                        most = Math.max(most, Longs.sum(steps, mostSteps.get(headOf(q, sign))));
                         goBelow(q, sign, steps);
                     }
                 }
@@ -1644,7 +1644,7 @@ public final class CallSteps {
             for (int q = 0; q < program.states; q++) {
                 long toPop = toPop(p, sign, q);
                 if (toPop >= 0) {
-                    stepsToNext.set(q, Math.max(stepsToNext.get(q), sum(steps, toPop)));
+                    stepsToNext.set(q, Math.max(stepsToNext.get(q), Longs.sum(steps, toPop)));
                 }
             }
         }

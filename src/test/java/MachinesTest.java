@@ -31,6 +31,8 @@ public final class MachinesTest {
         due("26 undone", x.machine(0), 3);
         due("26 a new system", Check.system(x, "state p;sign a;goal p a a a;"), 0);
         due("26 its machine", x.machine(0), 5);
+        due("28 its first node", x.good(0, 0), 0);
+        due("28 its good node", x.good(0, 3), 1);
         // What is told by two goals can be one machine with few nodes.
         CallSteps y = Check.made("state p;sign a;sign b;goal p a more;goal p b more;goal p;");
         due("26 all together", y.machine(0), 1);

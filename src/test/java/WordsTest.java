@@ -47,6 +47,10 @@ public final class WordsTest {
         for (int p = 0; p < 5; p++) {
             most = Math.max(most, x.machine(p));
             isLeast(6, text, x, p);
+            for (int n = 0; n <= 5; n++) {
+                CHECK.due("29 of many " + p + " " + n, x.stacks(p, n), goodWords(x, p, 0, n));
+            }
+            isShortest(x, p);
             for (int i = 0; i < 1000; i++) {
                 StringBuilder stack = new StringBuilder();
                 for (int n = row.below(12); n > 0; n--) {
@@ -56,6 +60,39 @@ public final class WordsTest {
             }
         }
         CHECK.due("26 many nodes", most > 200, true);
+    }
+
+    private static long goodWords(CallSteps x, int p, int k, int n) {
+        if (n == 0) {
+            return x.good(p, k);
+        }
+        long count = 0;
+        for (int g = 0; g < 6; g++) {
+            count += goodWords(x, p, x.next(p, k, g), n - 1);
+        }
+        return count;
+    }
+
+    /** All words of six SIGNS by length, then by SIGNS, until one is good. */
+    private static void isShortest(CallSteps x, int p) {
+        List<String> words = List.of("");
+        for (int n = 0; n < 7; n++) {
+            List<String> longer = new ArrayList<>();
+            for (String word : words) {
+                if (x.good(p, node(x, p, word)) == 1) {
+                    CHECK.due("30 of many " + p, x.shortest(p, -1), n);
+                    for (int i = 0; i < n; i++) {
+                        CHECK.due("30 of many " + p + " " + i, x.shortest(p, i), word.charAt(i) - '0');
+                    }
+                    return;
+                }
+                for (int g = 0; g < 6; g++) {
+                    longer.add(word + g);
+                }
+            }
+            words = longer;
+        }
+        CHECK.due("30 long or none " + p, x.shortest(p, -1) == -1 || x.shortest(p, -1) > 6, true);
     }
 
     private static int node(CallSteps x, int p, String stack) {
