@@ -70,6 +70,38 @@ final class Check {
         return x.at();
     }
 
+    /** What an object of a small SYSTEM answers of all that stands in it, but of its TAPE and its FAULT. */
+    static String standing(CallSteps x) {
+        StringBuilder seen = new StringBuilder();
+        for (int what = 0; what <= 5; what++) {
+            seen.append(x.about(what)).append(' ');
+        }
+        for (int k = 0; k < 2; k++) {
+            for (int what = 0; what <= 7; what++) {
+                seen.append(x.rule(k, what)).append(' ');
+            }
+        }
+        for (int what : new int[] {0, 1, 2, 10}) {
+            seen.append(x.goal(0, what)).append(' ');
+        }
+        for (int what : new int[] {0, 1, 2, 10, 11, 12}) {
+            seen.append(x.now(what)).append(' ');
+        }
+        seen.append(x.can()).append(' ').append(x.cost()).append(' ').append(x.way(-1)).append(' ').append(x.matters(0));
+        seen.append(' ').append(x.height()).append(' ').append(x.endless()).append(' ').append(x.longest()).append(' ');
+        seen.append(x.stuck()).append(' ').append(x.comes(0, -1)).append(' ').append(x.machine(0)).append(' ').append(x.stacks(0, 2));
+        return seen.toString();
+    }
+
+    void stays(String what, CallSteps x, String before) {
+        calls++;
+        String after = standing(x);
+        if (!after.equals(before)) {
+            wrong++;
+            System.out.println(test + ": " + what + ": what stood was " + before + ", is " + after);
+        }
+    }
+
     static CallSteps made(String text) {
         CallSteps x = new CallSteps();
         if (system(x, text) < 0) {

@@ -60,6 +60,12 @@ public final class LanguageTest {
     }
 
     private static void classes() {
+        Set<String> open = new TreeSet<>();
+        for (Method method : CallSteps.class.getDeclaredMethods()) {
+            if (Modifier.isPublic(method.getModifiers())) {
+                open.add(method.getName());
+            }
+        }
         CHECK.due("classes", CallSteps.class.getDeclaredClasses().length < 12, true);
         for (Class<?> inside : CallSteps.class.getDeclaredClasses()) {
             int state = 0;
@@ -72,6 +78,7 @@ public final class LanguageTest {
             CHECK.due("static " + inside, Modifier.isStatic(inside.getModifiers()), true);
             for (Method method : inside.getDeclaredMethods()) {
                 CHECK.due("parameters of " + method, method.getParameterCount() <= 7, true);
+                CHECK.due("name of " + method, open.contains(method.getName()), false);
             }
         }
     }
