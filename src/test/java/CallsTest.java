@@ -21,6 +21,8 @@ public final class CallsTest {
     private final Deque<Kept> acts = new ArrayDeque<>();
     private String place = "";
     private int out = 0;
+    /** Behind the 512th call nothing is promised. */
+    private int calls = 60;
 
     private CallsTest(Sample sample, Sample.Row row) {
         this.sample = sample;
@@ -28,15 +30,24 @@ public final class CallsTest {
         x = Check.made(sample.text());
     }
 
+    /** Whether so many calls more are promised, some being kept for others. */
+    private boolean mayCall(int more, int kept) {
+        calls += more;
+        return calls <= 512 - kept;
+    }
+
     public static void main(String[] args) {
         Sample.Row row = new Sample.Row(31337);
-        for (int i = 0; i < 300; i++) {
+        for (int i = 0; i < 2000; i++) {
             CallsTest test = new CallsTest(new Sample(row, 3, 3, 14, 9), row);
-            for (int k = 0; k < 100; k++) {
+            // An act takes eight calls at most, a question three.
+            while (test.mayCall(8, 150)) {
                 test.act();
-                test.compare();
+                if (row.below(3) == 0) {
+                    test.compare();
+                }
             }
-            for (int k = 0; k < 100; k++) {
+            while (test.mayCall(3, 50)) {
                 test.ask();
             }
             test.compare();
@@ -141,6 +152,7 @@ public final class CallsTest {
         CHECK.due("10 state", x.now(0), place.isEmpty() ? -2 : place.charAt(0) - '0');
         CHECK.due("10 signs", x.now(1), place.isEmpty() ? -2 : place.length() - 1);
         CHECK.due("10 goal", x.now(2), place.isEmpty() ? -2 : sample.isAtGoal(place) ? 1 : 0);
+        calls += 6 + Math.max(1, place.length());
         for (int i = 0; i < Math.max(1, place.length()); i++) {
             CHECK.due("10 sign", x.now(10 + i), i + 1 < place.length() ? place.charAt(i + 1) - '0' : -2);
         }

@@ -27,6 +27,7 @@ public final class EdgesOfNowTest {
         noActs();
         outOfEveryRule();
         refusedOut();
+        upToTheLastCall();
         CHECK.close();
     }
 
@@ -449,5 +450,27 @@ public final class EdgesOfNowTest {
         CallSteps none = new CallSteps();
         CHECK.due("32 no system", none.out(0, true), false);
         CHECK.due("32 no system, in", none.out(0, false), false);
+    }
+
+    /** An object is used for 512 calls: the last one is answered as the first one is. */
+    private static void upToTheLastCall() {
+        String text = "state p;sign a;rule p a to p;goal p;";
+        CallSteps x = new CallSteps();
+        Check.system(x, text);
+        Check.at(x, "p a");
+        // Two calls for each text beside its feeds, then system(), at().
+        int calls = (text.length() + 19) / 20 + 1 + 2 * 2 + 2;
+        boolean is = false;
+        while (calls < 510) {
+            is = !is;
+            CHECK.due("32 call " + calls, x.out(0, is), true);
+            due("15 call " + calls, x.cost(), is ? -1 : 1);
+            calls += 2;
+        }
+        while (calls < 511) {
+            due("6 call " + calls, x.about(4), is ? 1 : 0);
+            calls++;
+        }
+        due("6 the last call", x.about(5), 12);
     }
 }

@@ -111,7 +111,7 @@ public final class LanguageTest {
         Check.made(text).machine(0);
         long before = threads.getThreadAllocatedBytes(self);
         CallSteps x = Check.made(text, "p f d c f");
-        for (int i = 0; i < 40; i++) {
+        for (int i = 0; i < 38; i++) {
             x.out(i % 14, i % 3 == 0);
             x.machine(i % 5);
             x.same(0, 1);

@@ -99,7 +99,7 @@ public final class SearchTest {
             CHECK.due("16 no way", x.way(-1), -1);
             return;
         }
-        CallSteps y = made(sample, outBits);
+        Renewed y = new Renewed(sample.text(), outBits);
         String place = start;
         long left = cost;
         int steps = 0;
@@ -110,8 +110,8 @@ public final class SearchTest {
                 if (next == null || next.length() > 41) {
                     continue;
                 }
-                Check.at(y, Sample.placeText(next.charAt(0) - '0', next.substring(1)));
-                if (y.cost() >= 0 && y.cost() == left - sample.rules.get(r)[3]) {
+                long behind = y.costOf(Sample.placeText(next.charAt(0) - '0', next.substring(1)));
+                if (behind >= 0 && behind == left - sample.rules.get(r)[3]) {
                     least = r;
                 }
             }

@@ -12,9 +12,8 @@ public final class WordsTest {
             if (sample.goals.isEmpty()) {
                 continue;
             }
-            CallSteps x = Check.made(sample.text());
             int out = row.below(30);
-            x.out(out, true);
+            Renewed x = new Renewed(sample.text(), 1 << out);
             List<List<String>> told = new ArrayList<>();
             for (int p = 0; p < sample.states; p++) {
                 told.add(shortStacks(sample, x, p));
@@ -42,13 +41,13 @@ public final class WordsTest {
 
     private static void manyNodes(String lines, Sample.Row row) {
         String text = "state p;state q;state r;state s;state t;sign a;sign b;sign c;sign d;sign e;sign f;" + lines;
-        CallSteps x = Check.made(text);
+        Renewed x = new Renewed(text, 0);
         int most = 0;
         for (int p = 0; p < 5; p++) {
-            most = Math.max(most, x.machine(p));
+            most = Math.max(most, x.forOne().machine(p));
             isLeast(6, text, x, p);
             for (int n = 0; n <= 5; n++) {
-                CHECK.due("29 of many " + p + " " + n, x.stacks(p, n), goodWords(x, p, 0, n));
+                CHECK.due("29 of many " + p + " " + n, x.forOne().stacks(p, n), goodWords(x, p, 0, n));
             }
             isShortest(x, p);
             for (int i = 0; i < 1000; i++) {
@@ -56,33 +55,33 @@ public final class WordsTest {
                 for (int n = row.below(12); n > 0; n--) {
                     stack.append("01235".charAt(row.below(5)));
                 }
-                CHECK.due("28 of many " + p + " " + stack, x.good(p, node(x, p, stack.toString())), hasCost(x, p, stack.toString()) ? 1 : 0);
+                CHECK.due("28 of many " + p + " " + stack, x.forOne().good(p, node(x, p, stack.toString())), hasCost(x, p, stack.toString()) ? 1 : 0);
             }
         }
         CHECK.due("26 many nodes", most > 200, true);
     }
 
-    private static long goodWords(CallSteps x, int p, int k, int n) {
+    private static long goodWords(Renewed x, int p, int k, int n) {
         if (n == 0) {
-            return x.good(p, k);
+            return x.forOne().good(p, k);
         }
         long count = 0;
         for (int g = 0; g < 6; g++) {
-            count += goodWords(x, p, x.next(p, k, g), n - 1);
+            count += goodWords(x, p, x.forOne().next(p, k, g), n - 1);
         }
         return count;
     }
 
     /** All words of six SIGNS by length, then by SIGNS, until one is good. */
-    private static void isShortest(CallSteps x, int p) {
+    private static void isShortest(Renewed x, int p) {
         List<String> words = List.of("");
         for (int n = 0; n < 7; n++) {
             List<String> longer = new ArrayList<>();
             for (String word : words) {
-                if (x.good(p, node(x, p, word)) == 1) {
-                    CHECK.due("30 of many " + p, x.shortest(p, -1), n);
+                if (x.forOne().good(p, node(x, p, word)) == 1) {
+                    CHECK.due("30 of many " + p, x.forOne().shortest(p, -1), n);
                     for (int i = 0; i < n; i++) {
-                        CHECK.due("30 of many " + p + " " + i, x.shortest(p, i), word.charAt(i) - '0');
+                        CHECK.due("30 of many " + p + " " + i, x.forOne().shortest(p, i), word.charAt(i) - '0');
                     }
                     return;
                 }
@@ -92,24 +91,23 @@ public final class WordsTest {
             }
             words = longer;
         }
-        CHECK.due("30 long or none " + p, x.shortest(p, -1) == -1 || x.shortest(p, -1) > 6, true);
+        CHECK.due("30 long or none " + p, x.forOne().shortest(p, -1) == -1 || x.forOne().shortest(p, -1) > 6, true);
     }
 
-    private static int node(CallSteps x, int p, String stack) {
+    private static int node(Renewed x, int p, String stack) {
         int k = 0;
         for (int i = 0; i < stack.length(); i++) {
-            k = x.next(p, k, stack.charAt(i) - '0');
+            k = x.forOne().next(p, k, stack.charAt(i) - '0');
         }
         return k;
     }
 
-    private static boolean hasCost(CallSteps x, int p, String stack) {
-        Check.at(x, Sample.placeText(p, stack));
-        return x.cost() >= 0;
+    private static boolean hasCost(Renewed x, int p, String stack) {
+        return x.costOf(Sample.placeText(p, stack)) >= 0;
     }
 
     /** All STACKS of up to some SIGNS with which the STATE has a COST. */
-    private static List<String> shortStacks(Sample sample, CallSteps x, int p) {
+    private static List<String> shortStacks(Sample sample, Renewed x, int p) {
         int most = sample.signs == 1 ? 8 : sample.signs == 2 ? 6 : sample.signs < 5 ? 4 : 3;
         List<String> told = new ArrayList<>();
         List<String> words = List.of("");
@@ -118,7 +116,7 @@ public final class WordsTest {
             List<String> longer = new ArrayList<>();
             for (String word : words) {
                 boolean is = hasCost(x, p, word);
-                CHECK.due("28 of " + sample.text() + " " + p + " " + word, x.good(p, node(x, p, word)), is ? 1 : 0);
+                CHECK.due("28 of " + sample.text() + " " + p + " " + word, x.forOne().good(p, node(x, p, word)), is ? 1 : 0);
                 if (is) {
                     count++;
                     told.add(word);
@@ -127,54 +125,54 @@ public final class WordsTest {
                     longer.add(word + g);
                 }
             }
-            CHECK.due("29 of " + sample.text() + " " + p + " " + n, x.stacks(p, n), count);
+            CHECK.due("29 of " + sample.text() + " " + p + " " + n, x.forOne().stacks(p, n), count);
             words = longer;
         }
         if (told.isEmpty()) {
-            int length = x.shortest(p, -1);
+            int length = x.forOne().shortest(p, -1);
             CHECK.due("30 longer or none", length == -1 || length > most, true);
         } else {
             String first = told.get(0);
-            CHECK.due("30 of " + sample.text() + " " + p, x.shortest(p, -1), first.length());
+            CHECK.due("30 of " + sample.text() + " " + p, x.forOne().shortest(p, -1), first.length());
             for (int i = 0; i < first.length(); i++) {
-                CHECK.due("30 sign of " + sample.text() + " " + p, x.shortest(p, i), first.charAt(i) - '0');
+                CHECK.due("30 sign of " + sample.text() + " " + p, x.forOne().shortest(p, i), first.charAt(i) - '0');
             }
-            CHECK.due("30 behind the last", x.shortest(p, first.length()), -1);
+            CHECK.due("30 behind the last", x.forOne().shortest(p, first.length()), -1);
         }
         return told;
     }
 
-    private static void longStacks(Sample sample, CallSteps x, int p) {
+    private static void longStacks(Sample sample, Renewed x, int p) {
         for (int i = 0; i < 20; i++) {
             String stack = sample.stack(i < 10 ? 10 : 40);
-            CHECK.due("28 of " + sample.text() + " " + p + " " + stack, x.good(p, node(x, p, stack)), hasCost(x, p, stack) ? 1 : 0);
+            CHECK.due("28 of " + sample.text() + " " + p + " " + stack, x.forOne().good(p, node(x, p, stack)), hasCost(x, p, stack) ? 1 : 0);
         }
     }
 
     /** Every NODE comes up in its turn, and no two of them tell the same. */
-    private static void isLeast(int signs, String text, CallSteps x, int p) {
-        int nodes = x.machine(p);
+    private static void isLeast(int signs, String text, Renewed x, int p) {
+        int nodes = x.forOne().machine(p);
         int known = 1;
         for (int k = 0; k < nodes; k++) {
             for (int g = 0; g < signs; g++) {
-                int next = x.next(p, k, g);
+                int next = x.forOne().next(p, k, g);
                 CHECK.due("26 in turn, of " + text, next >= 0 && next <= known, true);
                 known = Math.max(known, next + 1);
             }
         }
         CHECK.due("26 all come up, of " + text, known, nodes);
-        CHECK.due("27 no more nodes", x.next(p, nodes, 0), -1);
-        CHECK.due("28 no more nodes", x.good(p, nodes), -1);
+        CHECK.due("27 no more nodes", x.forOne().next(p, nodes, 0), -1);
+        CHECK.due("28 no more nodes", x.forOne().good(p, nodes), -1);
         boolean[][] differ = new boolean[nodes][nodes];
         boolean changes = true;
         while (changes) {
             changes = false;
             for (int k = 0; k < nodes; k++) {
                 for (int j = 0; j < k; j++) {
-                    boolean is = x.good(p, k) != x.good(p, j);
+                    boolean is = x.forOne().good(p, k) != x.forOne().good(p, j);
                     for (int g = 0; g < signs && !is; g++) {
-                        int a = x.next(p, k, g);
-                        int b = x.next(p, j, g);
+                        int a = x.forOne().next(p, k, g);
+                        int b = x.forOne().next(p, j, g);
                         is = differ[Math.max(a, b)][Math.min(a, b)];
                     }
                     changes |= is && !differ[k][j];
@@ -189,15 +187,15 @@ public final class WordsTest {
         }
     }
 
-    private static void isSame(Sample sample, CallSteps x, int p, int q, boolean shortAlike) {
-        boolean alike = x.machine(p) == x.machine(q);
-        for (int k = 0; alike && k < x.machine(p); k++) {
-            alike = x.good(p, k) == x.good(q, k);
+    private static void isSame(Sample sample, Renewed x, int p, int q, boolean shortAlike) {
+        boolean alike = x.forOne().machine(p) == x.forOne().machine(q);
+        for (int k = 0; alike && k < x.forOne().machine(p); k++) {
+            alike = x.forOne().good(p, k) == x.forOne().good(q, k);
             for (int g = 0; alike && g < sample.signs; g++) {
-                alike = x.next(p, k, g) == x.next(q, k, g);
+                alike = x.forOne().next(p, k, g) == x.forOne().next(q, k, g);
             }
         }
-        CHECK.due("31 of " + sample.text() + " " + p + " " + q, x.same(p, q), alike ? 1 : 0);
+        CHECK.due("31 of " + sample.text() + " " + p + " " + q, x.forOne().same(p, q), alike ? 1 : 0);
         CHECK.due("31 short ones, of " + sample.text(), !alike || shortAlike, true);
     }
 }
