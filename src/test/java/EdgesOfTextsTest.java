@@ -31,6 +31,7 @@ public final class EdgesOfTextsTest {
         leastAtOnePlace();
         endIsAPlace();
         aSystemBeginsAnew();
+        eachTextIsReadAnew();
         aFaultKeepsAll();
         faultOfTheLatest();
         aboutAll();
@@ -590,6 +591,30 @@ public final class EdgesOfTextsTest {
         due("7 cost one of it", x.rule(0, 6), 1);
         due("8 one sign", x.goal(0, 10), 0);
         due("8 no second sign", x.goal(0, 11), -2);
+    }
+
+    /** Of a text that was refused nothing is left in how the next one is read. */
+    private static void eachTextIsReadAnew() {
+        String[] first = {"state", "sign", "rule", "goal", "to", "cost", "more", "state p;sign a;rule p a to", "p", "5", ";", "!", "zzzzzzz"};
+        String[] second = {"", ";", "5", "!", "p", "to", "1000", "\n;"};
+        int[] kinds = {0, 2, 2, 1, 2, 2, 1, 2};
+        for (String one : first) {
+            CallSteps x = new CallSteps();
+            for (int i = 0; i < second.length; i++) {
+                due("4 first " + one, Check.system(x, one), -1);
+                due("4 then " + second[i], Check.system(x, second[i]), kinds[i] == 0 ? 0 : -1);
+                due("5 behind " + one + " kind of " + second[i], x.fault(0), kinds[i]);
+                due("5 behind " + one + " place in " + second[i], x.fault(1), kinds[i] == 0 ? -1 : i == 7 ? 1 : 0);
+            }
+            CallSteps y = Check.made("state p;state q;sign a;sign b;", "q b");
+            for (int i = 0; i < second.length; i++) {
+                Check.at(y, i % 2 == 0 ? "p a" : "p");
+                Check.at(y, one);
+                due("9 behind " + one + " then " + second[i], Check.at(y, second[i]), i == 4 ? 0 : -1);
+                due("9 kind of " + second[i], y.fault(0), i == 4 ? 0 : Math.max(kinds[i], i == 0 ? 2 : 0));
+            }
+            due("9 an empty one behind a place", Check.at(y, ""), -1);
+        }
     }
 
     /** NONE: a FAULT (all else stays), but the TAPE is empty then. */

@@ -7,7 +7,7 @@ public final class WordsTest {
 
     public static void main(String[] args) {
         Sample.Row row = new Sample.Row(4711);
-        for (int i = 0; i < 400; i++) {
+        for (int i = 0; i < 1600; i++) {
             Sample sample = i % 2 == 0 ? new Sample(row, 3, 2, 10, 3) : new Sample(row, 5, 6, 14, 9);
             if (sample.goals.isEmpty()) {
                 continue;
@@ -29,6 +29,9 @@ public final class WordsTest {
         for (String text : MANY_NODES) {
             manyNodes(text, row);
         }
+        for (int i = 0; i < PARTED_LATE.length; i++) {
+            partedLate(PARTED_LATE[i], NODES_OF_THESE[i], row);
+        }
         CHECK.close();
     }
 
@@ -38,6 +41,30 @@ public final class WordsTest {
             + "rule s d to t c;rule q d to t;rule r c to q;rule q f to r;rule r c to p;goal r d c f;goal r f d d;goal s f d b;goal r d d c;",
         "rule s c to q;rule p b to s a;rule q c to t;rule t a to r;rule r b to p;rule t b to r;rule p a to p;rule q a to t;rule t a to q;"
             + "rule t c to s;rule s b to s;rule r a to s;rule q b to s c c;rule p a to q;goal s a c c;goal r c c a more;goal p c c f;goal s a a a;"};
+
+    /** SYSTEMS whose NODES are told apart only by what is read far behind them. */
+    private static final String[] PARTED_LATE = {
+        "rule q d to p a;rule p d to q;rule q b to p;rule q a to q;rule q d to p;rule p b to q a c;rule q d to q;rule p a to p;rule q d to q e;"
+            + "rule p c to p d;rule p d to q c d;rule q b to q;rule p c to q e;goal q d more;goal p d c;goal p a e;",
+        "rule q a to q d a;rule p b to q b;rule q d to p a a;rule p f to p;rule r f to p e;rule p f to q b f;rule p a to q;rule r b to p;"
+            + "rule r b to r c;rule q b to p e;rule q a to r c;goal q a b a;goal q e a d more;goal p;"};
+    private static final int[][] NODES_OF_THESE = {{9, 7, 1, 1, 1}, {9, 8, 10, 1, 1}};
+
+    private static void partedLate(String lines, int[] nodes, Sample.Row row) {
+        String text = "state p;state q;state r;state s;state t;sign a;sign b;sign c;sign d;sign e;sign f;" + lines;
+        Renewed x = new Renewed(text, 0);
+        for (int p = 0; p < nodes.length; p++) {
+            CHECK.due("26 nodes of " + p + " of " + text, x.forOne().machine(p), nodes[p]);
+            isLeast(6, text, x, p);
+            for (int i = 0; i < 300; i++) {
+                StringBuilder stack = new StringBuilder();
+                for (int n = row.below(8); n > 0; n--) {
+                    stack.append((char) ('0' + row.below(6)));
+                }
+                CHECK.due("28 of " + text + " " + p + " " + stack, x.forOne().good(p, node(x, p, stack.toString())), hasCost(x, p, stack.toString()) ? 1 : 0);
+            }
+        }
+    }
 
     private static void manyNodes(String lines, Sample.Row row) {
         String text = "state p;state q;state r;state s;state t;sign a;sign b;sign c;sign d;sign e;sign f;" + lines;
